@@ -747,7 +747,7 @@ public final class RoundTours {
             for (int i = 0; i < left; i++) {
                 for (int j = i + 1; j < left; j++) {
                     long far = matrix.rows[rest[i]][rest[j]];
-                    matcher.tell(i, j, far * scale + j * shares[i] + i * shares[j]);
+                    matcher.tell(i, j, far * scale + j * shares[i]);
                 }
             }
         }
@@ -1068,7 +1068,7 @@ public final class RoundTours {
 
         private int placeInRing(int r, int v) {
             int i = 0;
-            while (i < ringSize[r] - 1 && (members[ring[r][i]] >> v & 1) == 0) {
+            while (i < ringSize[r] - 1 && !holds(ring[r][i], v)) {
                 i++;
             }
             return i;

@@ -411,7 +411,7 @@ public final class RoundTours {
             return false;
         }
 
-        /** Only c above a: all distances are even here, so a flaw with c below a came before. */
+        /** Only c above a: distances are the same both ways here, so one with c below a came before. */
         private boolean seeDetour() {
             for (int a = 0; a < count; a++) {
                 for (int b = 0; b < count; b++) {

@@ -24,36 +24,24 @@ public final class FaceTest {
     private static final Set<String> CONSTANTS =
             Set.of("NONE=-1", "UNKNOWN=-101", "OUTSIDE=-102", "STATE=-103", "ROOM=-104");
 
-    private static int wrong = 0;
-
     public static void main(String[] args) throws ReflectiveOperationException, IOException {
         face();
         for (Class<?> inside : RoundTours.class.getDeclaredClasses()) {
-            check(Modifier.isStatic(inside.getModifiers()), inside + " is static");
-            check(!Modifier.isPublic(inside.getModifiers()), inside + " is not public");
+            Due.that(Modifier.isStatic(inside.getModifiers()), inside + " is static");
+            Due.that(!Modifier.isPublic(inside.getModifiers()), inside + " is not public");
             members(inside);
         }
         members(RoundTours.class);
-        check(RoundTours.class.getDeclaredClasses().length < 12, "at most twelve classes");
+        Due.that(RoundTours.class.getDeclaredClasses().length < 12, "at most twelve classes");
         source(Files.readString(Path.of("src/main/java/RoundTours.java")));
-        System.out.println(wrong == 0 ? "the face is as told" : wrong + " faults");
-        if (wrong != 0) {
-            System.exit(1);
-        }
-    }
-
-    private static void check(boolean holds, String what) {
-        if (!holds) {
-            wrong++;
-            System.out.println("not so: " + what);
-        }
+        Due.end();
     }
 
     private static void face() throws ReflectiveOperationException {
-        check(Modifier.isFinal(RoundTours.class.getModifiers()), "the class is final");
-        check(Modifier.isPublic(RoundTours.class.getModifiers()), "the class is public");
+        Due.that(Modifier.isFinal(RoundTours.class.getModifiers()), "the class is final");
+        Due.that(Modifier.isPublic(RoundTours.class.getModifiers()), "the class is public");
         Constructor<?>[] made = RoundTours.class.getDeclaredConstructors();
-        check(made.length == 1 && Modifier.isPublic(made[0].getModifiers())
+        Due.that(made.length == 1 && Modifier.isPublic(made[0].getModifiers())
                 && made[0].getParameterCount() == 0, "one public constructor without parameters");
         Set<String> methods = new TreeSet<>();
         Set<String> names = new TreeSet<>();
@@ -61,13 +49,13 @@ public final class FaceTest {
             if (!Modifier.isPrivate(m.getModifiers())) {
                 methods.add(told(m));
                 names.add(m.getName());
-                check(Modifier.isPublic(m.getModifiers()), m + " is public");
+                Due.that(Modifier.isPublic(m.getModifiers()), m + " is public");
             }
         }
-        check(methods.equals(FACE), "the methods are " + FACE + ", but " + methods);
+        Due.that(methods.equals(FACE), "the methods are " + FACE + ", but " + methods);
         for (Method m : RoundTours.class.getDeclaredMethods()) {
             boolean hidden = Modifier.isPrivate(m.getModifiers());
-            check(!hidden || !names.contains(m.getName()), m + " bears a name of its own");
+            Due.that(!hidden || !names.contains(m.getName()), m + " bears a name of its own");
         }
         Set<String> constants = new TreeSet<>();
         for (Field f : RoundTours.class.getDeclaredFields()) {
@@ -75,7 +63,7 @@ public final class FaceTest {
                 constants.add(f.getName() + "=" + f.get(null));
             }
         }
-        check(constants.equals(CONSTANTS), "the constants are " + CONSTANTS + ", but " + constants);
+        Due.that(constants.equals(CONSTANTS), "the constants are " + CONSTANTS + ", but " + constants);
     }
 
     private static String told(Method m) {
@@ -90,13 +78,13 @@ public final class FaceTest {
         int fields = 0;
         for (Field f : type.getDeclaredFields()) {
             boolean fixed = Modifier.isStatic(f.getModifiers());
-            check(!fixed || Modifier.isFinal(f.getModifiers()), f + " is final");
+            Due.that(!fixed || Modifier.isFinal(f.getModifiers()), f + " is final");
             fields += fixed ? 0 : 1;
         }
-        check(fields <= 20, type + " has at most twenty fields");
+        Due.that(fields <= 20, type + " has at most twenty fields");
         for (Method m : type.getDeclaredMethods()) {
-            check(m.getParameterCount() <= 7, m + " has at most seven parameters");
-            check(!Modifier.isNative(m.getModifiers()), m + " is plain");
+            Due.that(m.getParameterCount() <= 7, m + " has at most seven parameters");
+            Due.that(!Modifier.isNative(m.getModifiers()), m + " is plain");
         }
     }
 
@@ -106,17 +94,17 @@ public final class FaceTest {
             "System\\.(?!arraycopy)", "Math\\.(?!abs|max|min)", "Arrays\\.(?!fill|copyOf)", "Object",
             "package", "native", "volatile", "var"};
         for (String word : words) {
-            check(!Pattern.compile("\\b" + word + (word.endsWith(")") ? "" : "\\b")).matcher(plain).find(),
+            Due.that(!Pattern.compile("\\b" + word + (word.endsWith(")") ? "" : "\\b")).matcher(plain).find(),
                     "no " + word);
         }
-        check(!plain.contains("->") && !plain.contains("::"), "no lambda, no method reference");
-        check(!plain.contains("while (true)") && !plain.contains("for (;;)"), "loops have an end");
+        Due.that(!plain.contains("->") && !plain.contains("::"), "no lambda, no method reference");
+        Due.that(!plain.contains("while (true)") && !plain.contains("for (;;)"), "loops have an end");
         Matcher imports = Pattern.compile("import (.*?);").matcher(plain);
         while (imports.find()) {
-            check(List.of("java.util.Arrays").contains(imports.group(1)), "no import of " + imports.group(1));
+            Due.that(List.of("java.util.Arrays").contains(imports.group(1)), "no import of " + imports.group(1));
         }
         for (char c : text.toCharArray()) {
-            check(c <= 255, "only characters 0 to 255");
+            Due.that(c <= 255, "only characters 0 to 255");
         }
         methodLengths(plain.split("\n"));
     }
@@ -128,7 +116,7 @@ public final class FaceTest {
             String close = line.replaceAll("\\S.*", "") + "}";
             for (int j = i; opens && j < lines.length; j++) {
                 if (lines[j].equals(close)) {
-                    check(j - i < 60, "at most sixty lines: " + line.trim());
+                    Due.that(j - i < 60, "at most sixty lines: " + line.trim());
                     break;
                 }
             }

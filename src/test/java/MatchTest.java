@@ -8,18 +8,14 @@ public final class MatchTest {
     private static final int NEAR = 1 << 20;
 
     private final Random random = new Random(7);
-    private int wrong = 0;
 
     public static void main(String[] args) {
         int times = args.length > 0 ? Integer.parseInt(args[0]) : 6000;
         MatchTest test = new MatchTest();
-        for (int i = 0; i < times && test.wrong < 5; i++) {
+        for (int i = 0; i < times && Due.wrong() < 5; i++) {
             test.compare(i % 300 == 0 ? 20 : 6 + 2 * test.random.nextInt(5), i);
         }
-        System.out.println(times + " matchings, " + test.wrong + " wrong");
-        if (test.wrong != 0) {
-            System.exit(1);
-        }
+        Due.end();
     }
 
     /** Names of cities: those with the same third part lie near each other, then those with the same ninth. */
@@ -68,9 +64,6 @@ public final class MatchTest {
     }
 
     private void same(int time, String call, long got, long want) {
-        if (got != want) {
-            wrong++;
-            System.out.println("matching " + time + ": " + call + " answered " + got + ", due is " + want);
-        }
+        Due.due("matching " + time + ": " + call, got, want);
     }
 }

@@ -11,7 +11,7 @@ public final class ModelTest {
     private final Model m = new Model();
     private final StringBuilder told = new StringBuilder();
     private int calls = 0;
-    private int wrong = 0;
+    private boolean failed = false;
 
     private ModelTest(int run) {
         this.run = run;
@@ -20,18 +20,14 @@ public final class ModelTest {
 
     public static void main(String[] args) {
         int runs = args.length > 0 ? Integer.parseInt(args[0]) : RUNS;
-        int wrong = 0;
         long calls = 0;
-        for (int run = 0; run < runs && wrong < 5; run++) {
+        for (int run = 0; run < runs && Due.wrong() < 5; run++) {
             ModelTest test = new ModelTest(run);
             test.go();
-            wrong += test.wrong;
             calls += test.calls;
         }
-        System.out.println(calls + " calls, " + wrong + " wrong");
-        if (wrong != 0) {
-            System.exit(1);
-        }
+        System.out.println(calls + " calls");
+        Due.end();
     }
 
     private int below(int n) {
@@ -41,15 +37,15 @@ public final class ModelTest {
     private void same(String call, long got, long want) {
         calls++;
         told.append(call).append(" -> ").append(want).append('\n');
-        if (got != want && wrong == 0) {
-            wrong++;
-            System.out.println("run " + run + ": " + call + " answered " + got + ", due is " + want);
+        if (got != want && !failed) {
+            failed = true;
+            Due.due("run " + run + ": " + call, got, want);
             System.out.println(told);
         }
     }
 
     private void go() {
-        while (calls < CALLS && wrong == 0) {
+        while (calls < CALLS && !failed) {
             switch (below(12)) {
                 case 0 -> spoiltText();
                 case 1 -> change();

@@ -9,8 +9,6 @@ public final class PromisesTest {
     /** Four cities on a line at 0, 1, 3, 6. */
     private static final String LINE = "+4:0,0;1,0;3,0;6,0;";
 
-    private static int wrong = 0;
-
     public static void main(String[] args) {
         newObject();
         begin();
@@ -44,25 +42,16 @@ public final class PromisesTest {
         bound();
         boundSteps();
         penalties();
-        System.out.println(wrong == 0 ? "all answers are as due" : wrong + " answers are not as due");
-        if (wrong != 0) {
-            System.exit(1);
-        }
+        Due.end();
     }
 
     private static void due(String what, long got, long want) {
-        if (got != want) {
-            wrong++;
-            System.out.println(what + ": " + got + ", due is " + want);
-        }
+        Due.due(what, got, want);
     }
 
     private static RoundTours of(String text) {
         RoundTours x = new RoundTours();
-        if (Typing.read(x, text) < 0) {
-            wrong++;
-            System.out.println("not read: " + text);
-        }
+        Due.that(Typing.read(x, text) > 0, "read of " + text);
         return x;
     }
 

@@ -10,22 +10,10 @@ public final class RoomTest {
     private static final long MOST_OBJECTS = 600_000;
     private static final long MOST_ELEMENTS = 7_300_000;
 
-    private static int wrong = 0;
-
     public static void main(String[] args) throws ReflectiveOperationException {
         newObjects();
         dearCalls();
-        System.out.println(wrong == 0 ? "there is room" : wrong + " faults");
-        if (wrong != 0) {
-            System.exit(1);
-        }
-    }
-
-    private static void check(boolean holds, String what) {
-        if (!holds) {
-            wrong++;
-            System.out.println("not so: " + what);
-        }
+        Due.end();
     }
 
     /** A run may make new objects again and again, each of them used for its dearest call. */
@@ -33,13 +21,13 @@ public final class RoomTest {
         RoundTours x = new RoundTours();
         long[] fresh = held(x);
         System.out.println("a new object: " + fresh[0] + " objects, " + fresh[1] + " elements");
-        check(fresh[0] * CALLS < MOST_OBJECTS / 2, "few objects in a new one");
-        check(fresh[1] * CALLS < MOST_ELEMENTS / 2, "few elements in a new one");
+        Due.that(fresh[0] * CALLS < MOST_OBJECTS / 2, "few objects in a new one");
+        Due.that(fresh[1] * CALLS < MOST_ELEMENTS / 2, "few elements in a new one");
         x.begin(11);
         x.best();
         long[] used = held(x);
         System.out.println("behind best: " + used[0] + " objects, " + used[1] + " elements");
-        check(used[1] * (CALLS / 3) < MOST_ELEMENTS / 2, "few elements in a used one");
+        Due.that(used[1] * (CALLS / 3) < MOST_ELEMENTS / 2, "few elements in a used one");
     }
 
     /** Rows are made once: many dear calls of one object make next to nothing. */
@@ -53,7 +41,7 @@ public final class RoomTest {
         run(x);
         long made = threads.getThreadAllocatedBytes(thread) - before;
         System.out.println("a second run of dear calls makes " + made + " bytes");
-        check(made < 20_000, "calls make next to nothing");
+        Due.that(made < 20_000, "calls make next to nothing");
     }
 
     private static void run(RoundTours x) {

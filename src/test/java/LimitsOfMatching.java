@@ -200,6 +200,11 @@ final class LimitsOfMatching extends Limits {
         dueMatching(125, "^12:20,20,20,20,20,20,20,20,20,20,20;22,22,23,21,23,21,23,23,23,23;"
                 + "21,22,21,21,23,21,23,22,22;22,23,23,22,22,22,23,22;21,21,22,23,21,21,21;23,23,23,23,23,23;"
                 + "22,21,22,22,21;22,23,21,23;21,23,21;21,21;21;", 1, 0, 3, 2, 5, 4, 8, 10, 6, 11, 7, 9);
+        dueMatching(427, "^16:50,50,50,50,50,50,50,50,50,50,50,50,50,50,50;"
+                + "66,62,51,65,53,65,69,59,62,63,69,61,63,68;66,67,66,67,55,60,63,59,60,54,71,56,64;"
+                + "52,70,55,61,65,54,61,66,66,63,68,63;71,53,60,63,52,61,67,61,62,67,70;66,62,66,70,57,53,60,64,56,60;"
+                + "57,67,61,71,67,68,67,62,71;56,63,59,62,54,66,70,71;71,51,67,56,63,57,66;67,66,69,59,66,68;"
+                + "57,62,68,60,61;67,66,53,61;65,57,63;61,62;57;", 13, 4, 12, 9, 1, 11, 7, 6, 10, 3, 8, 5, 2, 0, 15, 14);
     }
 
     private static void dueMatching(long sum, String text, int... partners) {
@@ -218,6 +223,23 @@ final class LimitsOfMatching extends Limits {
             long sum = x.match();
             due("prices() of " + text, x.prices(), 2 * sum);
         }
+    }
+
+    @Says(promise = 18, words = "All sums of distances are reckoned in 64 bits.")
+    static void pricesOfFarSets() {
+        // Two stars, round 0 and round 4, as far apart as can be: the numbers of the sets 1 2 3 and
+        // 5 6 7 don't go into 32 bits.
+        RoundTours x = new RoundTours();
+        x.begin(8);
+        for (int a = 0; a < 8; a++) {
+            for (int b = a + 1; b < 8; b++) {
+                int near = a % 4 == 0 ? 1 : 2;
+                x.set(a, b, a / 4 == b / 4 ? near : TOP, true);
+            }
+        }
+        due("match()", x.match(), 4L + TOP);
+        due("prices()", x.prices(), 8 + 2L * TOP);
+        duePartners(x, NONE, 2, 1, 5, NONE, 3, 7, 6);
     }
 
     @Says(promise = 18, words = "(they always are; 0 without odd cities).")

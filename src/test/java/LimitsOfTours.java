@@ -132,6 +132,14 @@ final class LimitsOfTours extends Limits {
         // From 1 on: 1 2 0 3.
         due("build(2, 1)", x.build(2, 1), 50);
         dueStops(x, 0, 3, 1, 2);
+        // Twenty cities: 2 lies above 0 and 1, all others far below them, and come between 1 and 0.
+        StringBuilder many = new StringBuilder("*20:400,400;440,400;420,450;");
+        for (int c = 3; c < MOST_CITIES; c++) {
+            many.append(40 * c).append(",0;");
+        }
+        x = of(many.toString());
+        due("build(2, 0) of twenty", x.build(2, 0), 1750);
+        dueStops(x, 0, 2, 1, 19, 18, 17, 16, 15, 14, 13, 12, 11, 10, 9, 8, 7, 6, 5, 4, 3);
     }
 
     @Says(promise = 21, words = "(of several the least city, then the place that is nearest behind the city it "

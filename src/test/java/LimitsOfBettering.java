@@ -1,4 +1,4 @@
-/** Tours bettered by turns and moves. The tours that are written behind texts were reckoned by hand. */
+/** Tours bettered by turns and moves. The longer cases were found and checked with Model. */
 final class LimitsOfBettering extends Limits {
     private static final int TURNS = 0, MOVES = 1, BOTH = 2;
 

@@ -15,6 +15,7 @@ public final class RoundTours {
     private static final int MOST_ROUNDS = 100;
     private static final int MOST_STEP = 1000000;
     private static final int AT_FAULT = -1000;
+    private static final long ENDLESS = 9223372036854775807L;
     private static final int TREE = 0, PAIRING = 1, WALK = 2;
 
     private final Tape tape = new Tape();
@@ -441,6 +442,7 @@ public final class RoundTours {
     private static final class Tape {
         private static final int FIRST_SIGNS = 64;
         private static final int MOST_DIGITS = 10;
+        private static final int MOST_FAR = 2147483647;
         private static final int MOST_IN_POINT = 1000000;
 
         private byte[] signs = new byte[FIRST_SIGNS];
@@ -573,7 +575,7 @@ public final class RoundTours {
                     if (i > 0) {
                         takeSign(',');
                     }
-                    numbers[row][i] = takeNumber(0, isMatrix() ? Integer.MAX_VALUE : MOST_IN_POINT);
+                    numbers[row][i] = takeNumber(0, isMatrix() ? MOST_FAR : MOST_IN_POINT);
                 }
                 takeSign(';');
             }
@@ -850,7 +852,7 @@ public final class RoundTours {
         }
 
         private long leastCost() {
-            long found = Long.MAX_VALUE;
+            long found = ENDLESS;
             for (int a = 0; a < count; a++) {
                 for (int b = a + 1; b < count; b++) {
                     found = Math.min(found, costs[a][b]);
@@ -875,7 +877,7 @@ public final class RoundTours {
 
         /** The least step of the prices that lets something happen, and between which two it does. */
         private void findStep() {
-            step = Long.MAX_VALUE;
+            step = ENDLESS;
             for (int b = FIRST_BLOSSOM; b < MOST_NODES; b++) {
                 if (mark[b] == INNER && isTop(b) && price[b] / 2 < step) {
                     keepStep(price[b] / 2, b, NONE);
@@ -1429,7 +1431,7 @@ public final class RoundTours {
         private void putCheapest(Matrix matrix, int[] stops, int size) {
             int city = 0;
             int place = 0;
-            long least = Long.MAX_VALUE;
+            long least = ENDLESS;
             for (int next = 0; next < matrix.count; next++) {
                 for (int p = 0; p < size && !used[next]; p++) {
                     int left = stops[p];
@@ -1573,7 +1575,7 @@ public final class RoundTours {
             if (rest == 0) {
                 return row[0];
             }
-            long found = Long.MAX_VALUE;
+            long found = ENDLESS;
             for (int next = 0; next < others; next++) {
                 if ((rest >> next & 1) != 0) {
                     long way = row[next + 1] + home[(rest ^ 1 << next) * others + next];
@@ -1610,7 +1612,7 @@ public final class RoundTours {
             if (matrix.count < 3) {
                 return matrix.count < 2 ? 0 : 2L * matrix.rows[0][1];
             }
-            long greatest = Long.MIN_VALUE;
+            long greatest = -ENDLESS;
             long step = firstStep;
             for (int i = 1; i <= rounds; i++) {
                 greatest = Math.max(greatest, growOneTree(matrix));

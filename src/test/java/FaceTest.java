@@ -91,7 +91,8 @@ public final class FaceTest {
     private static void source(String text) {
         String plain = text.replaceAll("(?s)/\\*.*?\\*/", "").replaceAll("//.*", "");
         String[] words = {"throw", "throws", "try", "catch", "synchronized", "assert", "double", "float",
-            "System\\.(?!arraycopy)", "Math\\.(?!abs|max|min)", "Arrays\\.(?!fill|copyOf)", "Object",
+            "System\\.(?!arraycopy)", "Math\\.(?!abs|max|min)", "Arrays\\.(?!fill|copyOf)",
+            "Integer\\.(?!bitCount)", "Long\\.(?!compare)", "Object",
             "package", "native", "volatile", "var"};
         for (String word : words) {
             Due.that(!Pattern.compile("\\b" + word + (word.endsWith(")") ? "" : "\\b")).matcher(plain).find(),
